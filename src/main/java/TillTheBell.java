@@ -9,9 +9,11 @@ public final class TillTheBell {
     private static final int MOST_PEOPLE = 6;
     private static final int MOST_THINGS = 10;
     private static final int MOST_DEEDS = 30;
+    private static final int MOST_COINS = 9999;
     private static final int MOST_PRICE = 9999;
     private static final int MOST_WORTH = 999;
     private static final int MOST_SHARE = 100;
+    private static final int MOST_BELL = 999;
     private static final int MOST_MINUTE = 1000;
     private static final int MOST_OPEN = 10;
     private static final int MOST_TURNS = 12;
@@ -987,6 +989,14 @@ public final class TillTheBell {
         private static final int NUMBER = 3;
         private static final int SIGN = 4;
 
+        private static final int PEOPLE = 0;
+        private static final int COINS = 1;
+        private static final int THING = 2;
+        private static final int WORTH = 3;
+        private static final int SHARE = 4;
+        private static final int BELL = 5;
+        private static final int EATEN = 6;
+
         int length;
         int wrong;
         int place = NONE;
@@ -996,6 +1006,7 @@ public final class TillTheBell {
         private int start;
         private int after;
         private int value;
+        private int taken;
 
         void add(int four) {
             for (int shift = 24; shift >= 0 && length < MOST_BYTES; shift -= 8) {
@@ -1012,7 +1023,8 @@ public final class TillTheBell {
             into.clear();
             next();
             for (int i = 0; i < MOST_BYTES && sort != END; i++) {
-                if (!begins(into) || !readLine(into) || !closes()) {
+                int kind = kindOfLine();
+                if (!begins(kind, into) || !readNumbers(kind, into) || !closes()) {
                     return false;
                 }
                 into.lines++;
@@ -1020,14 +1032,36 @@ public final class TillTheBell {
             return true;
         }
 
-        private boolean begins(Town into) {
-            boolean ofPeople = isWord("people");
-            if (!isLineWord() || into.people == 0 && !ofPeople) {
+        private int kindOfLine() {
+            if (isWord("people")) {
+                return PEOPLE;
+            }
+            if (isWord("coins")) {
+                return COINS;
+            }
+            if (isWord("thing")) {
+                return THING;
+            }
+            if (isWord("worth")) {
+                return WORTH;
+            }
+            if (isWord("share")) {
+                return SHARE;
+            }
+            if (isWord("bell")) {
+                return BELL;
+            }
+            return isWord("eaten") ? EATEN : NONE;
+        }
+
+        private boolean begins(int kind, Town into) {
+            if (kind == NONE || kind != PEOPLE && into.people == 0) {
                 return fails(2);
             }
-            if (into.people > 0 && ofPeople || into.things == MOST_THINGS && isWord("thing")) {
+            if (kind == PEOPLE && into.people > 0 || kind == THING && into.things == MOST_THINGS) {
                 return fails(4);
             }
+            next();
             return true;
         }
 
@@ -1039,131 +1073,110 @@ public final class TillTheBell {
             return true;
         }
 
-        private boolean isLineWord() {
-            return isWord("people") || isWord("coins") || isWord("thing") || isWord("worth")
-                || isWord("share") || isWord("bell") || isWord("eaten");
-        }
-
-        private boolean readLine(Town into) {
-            if (isWord("people")) {
-                return readPeople(into);
+        private boolean readNumbers(int kind, Town into) {
+            switch (kind) {
+                case PEOPLE:
+                    return readPeople(into);
+                case COINS:
+                    return readCoins(into);
+                case THING:
+                    return readThing(into);
+                case WORTH:
+                    return readWorth(into);
+                case SHARE:
+                    return readShare(into);
+                case BELL:
+                    return readBell(into);
+                default:
+                    return readEaten(into);
             }
-            if (isWord("coins")) {
-                return readCoins(into);
-            }
-            if (isWord("thing")) {
-                return readThing(into);
-            }
-            if (isWord("worth")) {
-                return readWorth(into);
-            }
-            if (isWord("share")) {
-                return readShare(into);
-            }
-            return isWord("bell") ? readBell(into) : readEaten(into);
         }
 
         private boolean readPeople(Town into) {
-            next();
-            if (!isNumber(1, MOST_PEOPLE)) {
+            if (!takes(1, MOST_PEOPLE)) {
                 return false;
             }
-            into.people = value;
-            next();
+            into.people = taken;
             return true;
         }
 
         private boolean readCoins(Town into) {
-            next();
-            if (!isNumber(0, into.people - 1)) {
+            if (!takes(0, into.people - 1)) {
                 return false;
             }
-            int p = value;
-            next();
-            if (!isNumber(0, 9999)) {
+            int p = taken;
+            if (!takes(0, MOST_COINS)) {
                 return false;
             }
-            into.coins[p] = value;
-            next();
+            into.coins[p] = taken;
             return true;
         }
 
         private boolean readThing(Town into) {
-            next();
-            if (!isNumber(0, into.people - 1)) {
+            if (!takes(0, into.people - 1)) {
                 return false;
             }
-            into.holders[into.things] = value;
-            next();
-            for (int p = 0; p <= MOST_PEOPLE && sort == NUMBER; p++) {
-                if (!isNumber(0, MOST_WORTH)) {
+            into.holders[into.things] = taken;
+            for (int p = 0; p < into.people && sort == NUMBER; p++) {
+                if (!takes(0, MOST_WORTH)) {
                     return false;
                 }
-                if (p >= into.people) {
-                    return fails(4);
-                }
-                into.setWorth(into.things, p, value);
-                next();
+                into.setWorth(into.things, p, taken);
             }
             into.things++;
-            return true;
+            return sort != NUMBER || fails(value > MOST_WORTH ? 3 : 4);
         }
 
         private boolean readWorth(Town into) {
-            next();
-            if (!isNumber(0, into.things - 1)) {
+            if (!takes(0, into.things - 1)) {
                 return false;
             }
-            int thing = value;
-            next();
-            if (!isNumber(0, into.people - 1)) {
+            int thing = taken;
+            if (!takes(0, into.people - 1)) {
                 return false;
             }
-            int p = value;
-            next();
-            if (!isNumber(0, MOST_WORTH)) {
+            int p = taken;
+            if (!takes(0, MOST_WORTH)) {
                 return false;
             }
-            into.setWorth(thing, p, value);
-            next();
+            into.setWorth(thing, p, taken);
             return true;
         }
 
         private boolean readShare(Town into) {
-            next();
-            if (!isNumber(0, MOST_SHARE)) {
+            if (!takes(0, MOST_SHARE)) {
                 return false;
             }
-            into.share = value;
-            next();
+            into.share = taken;
             return true;
         }
 
         private boolean readBell(Town into) {
-            next();
-            if (!isNumber(1, 999)) {
+            if (!takes(1, MOST_BELL)) {
                 return false;
             }
-            into.bell = value;
-            next();
+            into.bell = taken;
             return true;
         }
 
         private boolean readEaten(Town into) {
-            next();
-            if (!isNumber(0, into.things - 1)) {
+            if (!takes(0, into.things - 1)) {
                 return false;
             }
-            into.eaten |= 1 << value;
-            next();
+            into.eaten |= 1 << taken;
             return true;
         }
 
-        private boolean isNumber(int least, int most) {
+        private boolean takes(int least, int most) {
             if (sort != NUMBER) {
                 return fails(2);
             }
-            return value >= least && value <= most || fails(3);
+            if (value < least || value > most) {
+                return fails(3);
+            }
+            taken = value;
+            next();
+            return true;
         }
 
         private boolean fails(int kind) {
@@ -1192,39 +1205,31 @@ public final class TillTheBell {
             after = start;
             if (start >= limit) {
                 sort = END;
-            } else if (isLetter(start)) {
-                takeWord();
-            } else if (isDigit(start)) {
-                takeNumber();
+            } else if (takeRun('a', 'z')) {
+                sort = WORD;
+            } else if (takeRun('0', '9')) {
+                sort = after - start > 4 ? BAD : NUMBER;
+                value = valueOfRun();
             } else {
                 sort = tape[start] == ';' ? SIGN : BAD;
                 after = start + 1;
             }
         }
 
-        private void takeWord() {
-            sort = WORD;
-            while (after < limit && isLetter(after)) {
+        private boolean takeRun(int least, int most) {
+            while (after < limit && tape[after] >= least && tape[after] <= most) {
                 after++;
             }
+            return after > start;
         }
 
-        private void takeNumber() {
-            value = 0;
-            while (after < limit && isDigit(after)) {
-                // Beyond four digits the value is not used; it is kept small so that it can't wrap.
-                value = (value * 10 + tape[after] - '0') % 100000;
-                after++;
+        private int valueOfRun() {
+            int sum = 0;
+            // More digits than four are no number, so none beyond them counts.
+            for (int at = start; at < after && at < start + 4; at++) {
+                sum = sum * 10 + tape[at] - '0';
             }
-            sort = after - start > 4 ? BAD : NUMBER;
-        }
-
-        private boolean isLetter(int at) {
-            return tape[at] >= 'a' && tape[at] <= 'z';
-        }
-
-        private boolean isDigit(int at) {
-            return tape[at] >= '0' && tape[at] <= '9';
+            return sum;
         }
     }
 
