@@ -360,8 +360,9 @@ public final class TillTheBell {
 
     public int end(int rounds, int what) throws IllegalArgumentException {
         needRounds(rounds);
-        boolean ofPerson = what >= 10 && what - 10 < now.people;
-        if (what != 0 && what != 1 && !ofPerson && what < 100) {
+        boolean ofPerson = what >= 10 && now.hasPerson(what - 10);
+        boolean ofTurn = what >= 100 && what - 100 < rounds * now.people;
+        if (what != 0 && what != 1 && !ofPerson && !ofTurn) {
             throw new IllegalArgumentException();
         }
         if (!ending.lay(now, rounds, 0)) {
@@ -371,7 +372,7 @@ public final class TillTheBell {
         if (ofPerson) {
             return now.wealth(what - 10) + ending.change(what - 10);
         }
-        if (what >= 100) {
+        if (ofTurn) {
             return ending.undoneIn(what - 100);
         }
         return what == 0 ? ending.left : ending.undoings();

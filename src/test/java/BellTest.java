@@ -14,6 +14,7 @@ public final class BellTest {
         safePrices();
         longestAndBidder();
         theEndLooksAhead();
+        nobodyHasATurn();
         likeOnes();
         bothRounds();
         otherFirst();
@@ -196,8 +197,6 @@ public final class BellTest {
         Check.is("one turn", x.end(1, 1), 1);
         Check.is("the first leaves it", x.end(1, 100), -1);
         Check.is("the second does it", x.end(1, 101), 0);
-        Check.is("no such turn", x.end(1, 102), -1);
-        Check.is("no such turn", x.end(1, Integer.MAX_VALUE), -1);
         Check.is("wealth of the giver", x.end(1, 10), 40);
         Check.is("wealth of the taker", x.end(1, 11), 100);
         Check.is("keeper", x.keeper(0, 1), 0);
@@ -208,7 +207,7 @@ public final class BellTest {
             Check.throwsA(IllegalArgumentException.class, "rounds " + r, () -> x.keeper(0, r));
             Check.throwsA(NoSuchElementException.class, "keeper: the thing first", () -> x.keeper(1, r));
         }
-        for (int what : new int[] {-1, 2, 9, 12, 15, 99, Integer.MIN_VALUE}) {
+        for (int what : new int[] {-1, 2, 9, 12, 15, 99, 102, 103, 2097152, Integer.MAX_VALUE, Integer.MIN_VALUE}) {
             Check.throwsA(IllegalArgumentException.class, "what " + what, () -> x.end(1, what));
         }
         TillTheBell y = chained();
@@ -216,6 +215,22 @@ public final class BellTest {
         Check.is("no turn", y.end(1, 1), 0);
         Check.is("keeper now", y.keeper(0, 2), 2);
         Check.is("keeper of another thing", y.keeper(1, 1), 1);
+    }
+
+    private static void nobodyHasATurn() {
+        TillTheBell x = new TillTheBell();
+        Check.is("nothing stands", x.end(1, 0), 0);
+        Check.is("nothing is undone", x.end(2, 1), 0);
+        for (int what : new int[] {10, 100, 101, 112, 2097152, Integer.MAX_VALUE}) {
+            Check.throwsA(IllegalArgumentException.class, "nobody: what " + what, () -> x.end(1, what));
+            Check.throwsA(IllegalArgumentException.class, "nobody, two rounds: what " + what, () -> x.end(2, what));
+        }
+        TillTheBell six = Check.of("people 6;");
+        Check.is("the last of twelve turns", six.end(2, 111), -1);
+        Check.throwsA(IllegalArgumentException.class, "there are twelve", () -> six.end(2, 112));
+        Check.throwsA(IllegalArgumentException.class, "there are six", () -> six.end(1, 106));
+        six.pass(999);
+        Check.is("rung: a turn without anything undone", six.end(1, 105), -1);
     }
 
     private static void likeOnes() {
@@ -235,10 +250,12 @@ public final class BellTest {
         Check.is("one round: one of them", x.end(1, 0), 2);
         Check.is("two rounds: both", x.end(2, 0), 0);
         Check.is("two turns", x.end(2, 1), 2);
-        int[] due = {0, -1, 1, -1, -1};
+        int[] due = {0, -1, 1, -1};
         for (int k = 0; k < due.length; k++) {
             Check.is("turn " + k, x.end(2, 100 + k), due[k]);
         }
+        Check.throwsA(IllegalArgumentException.class, "no turn behind the last of two rounds", () -> x.end(2, 104));
+        Check.throwsA(IllegalArgumentException.class, "nor behind the last of one", () -> x.end(1, 102));
         Check.is("wealth", x.end(2, 10), 10);
         Check.is("keeper, one round", x.keeper(1, 1), 1);
         Check.is("keeper, two rounds", x.keeper(1, 2), 0);
@@ -283,6 +300,8 @@ public final class BellTest {
         Check.is("eleven: news", x.news(0, 0, 5), -100000);
         Check.is("eleven: best share", x.bestShare(), -100000);
         Check.throwsA(IllegalArgumentException.class, "eleven: what", () -> x.end(1, 12));
+        Check.is("eleven: the last turn", x.end(2, 103), -100000);
+        Check.throwsA(IllegalArgumentException.class, "eleven: no such turn", () -> x.end(2, 104));
         Check.throwsA(IllegalArgumentException.class, "eleven: rounds", () -> x.keeper(0, 0));
         x.eat(0);
         Check.is("eaten ones don't count, and stand", x.end(1, 0), 2047);

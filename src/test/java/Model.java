@@ -565,13 +565,14 @@ public final class Model {
     public int end(int rounds, int what) {
         if (rounds < 1 || rounds > 2) throw new IllegalArgumentException();
         boolean person = what >= 10 && what < 10 + s.people;
-        if (what != 0 && what != 1 && !person && what < 100) throw new IllegalArgumentException();
+        boolean turn = what >= 100 && what < 100 + rounds * s.people;
+        if (what != 0 && what != 1 && !person && !turn) throw new IllegalArgumentException();
         Outcome o = endOf(s, rounds, 0);
         if (o == null) return SPENT;
         if (what == 0) return o.town.bits();
         if (what == 1) return (int) o.undone.stream().filter(d -> d != NONE).count();
         if (person) return o.town.wealth(what - 10);
-        return what - 100 < o.undone.size() ? o.undone.get(what - 100) : NONE;
+        return o.undone.get(what - 100);
     }
 
     public int ringer(int p) {
