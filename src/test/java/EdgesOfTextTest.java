@@ -442,6 +442,10 @@ public final class EdgesOfTextTest {
         }
         Check.is("its worth", x.worth(0, 1), 0);
         Check.is("none open", x.open(), 0);
+        Check.is("the tray stays", x.judge(0, 0), 0);
+        Check.is("its place", x.write(0, 0, 300), 44);
+        Check.throwsA(IndexOutOfBoundsException.class, "it has one", () -> x.write(0, 1, 0));
+        Check.throwsA(IllegalStateException.class, "others are missing still", () -> x.write(1, 0, 0));
     }
 
     /** "Of the latest town() that threw nothing, what 0: the FAULT (0 without, and at first), 1: its place (NONE without). NONE for others." */

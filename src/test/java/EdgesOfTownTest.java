@@ -183,8 +183,15 @@ public final class EdgesOfTownTest {
         Check.throwsA(IllegalStateException.class, "at 9", x::morning);
         Check.is("three deeds", x.count(3), 3);
         x.pass(1);
+        Check.tell(x, "people 1;?");
+        Check.feed(x, "tape");
+        Check.fill(x, 3, 1, 300, 5);
+        x.image(1);
         Check.is("two stood", x.morning(), 2);
-        int[] due = {9, 2, 3, 0, 0, 0, 7, 10, 4, 90, 108, 0};
+        Check.is("the fault stays", x.fault(1), 9);
+        Check.is("the tray stays", x.judge(3, 1), 1);
+        Check.throwsA(IndexOutOfBoundsException.class, "with its places", () -> x.write(3, 2, 0));
+        int[] due = {9, 2, 3, 0, 0, 0, 7, 10, 4, 90, 108, 20};
         for (int what = 0; what < 12; what++) {
             Check.is("morning: count " + what, x.count(what), due[what]);
         }
@@ -201,6 +208,10 @@ public final class EdgesOfTownTest {
         x.undo(0, 0);
         x.pass(10);
         Check.is("none stood", x.morning(), 0);
+        x.restore(1);
+        Check.is("images stay: the evening ahead of it", x.count(5), 10);
+        Check.is("with its deeds", x.count(3), 3);
+        Check.is("two stood then", x.morning(), 2);
     }
 
     /** Thirty deeds a day, day by day. */

@@ -261,7 +261,19 @@ public final class StillTest {
         no(ARGUMENT, "hope in 0", x -> x.hope(0, 1, 0, 0));
         no(ARGUMENT, "hope in 7", x -> x.hope(0, 1, 7, 0));
         no(ARGUMENT, "hope, what 3", x -> x.hope(0, 1, 1, 3));
+        no(ARGUMENT, "hope, what -1", x -> x.hope(0, 1, 1, -1));
+        Still.thrown(STATE, "hope behind the bell", StillTest::rung, x -> x.hope(0, 1, 1, 0));
+        long[][] rows = {{}, {1, 2, 3, 4, 5, 6, 7}, {5, -1}, {10000, 5}};
+        for (long[] row : rows) {
+            Still.thrown(ARGUMENT, "hope of " + row.length + " wrong offers", () -> withOffers(row), x -> x.hope(0, 3, 1, 0));
+        }
         refuses("hope that never takes", -1, x -> x.hope(1, 0, 1, 2));
+    }
+
+    private static TillTheBell withOffers(long... row) {
+        TillTheBell x = rich();
+        Check.fill(x, 3, 3, row);
+        return x;
     }
 
     private static void traysAndImages() {
